@@ -607,6 +607,8 @@ public final class TreeHands {
         private static final int HALF = 8;
         private static final int ALONE = 16;
         private static final int SIDE = MOST_NODES + 1;
+        // above every price
+        private static final long FAR = 1L << 60;
 
         final int[] prices = {3, 3, 2};
         final int[] partner = new int[MOST_NODES];
@@ -683,8 +685,8 @@ public final class TreeHands {
         }
 
         private void startOver() {
-            bestHigh = Long.MAX_VALUE;
-            bestLow = Long.MAX_VALUE;
+            bestHigh = FAR;
+            bestLow = FAR;
         }
 
         private void offer(long high, long low) {

@@ -27,7 +27,7 @@ public final class ModelTest {
         for (int seed = 0; seed < 2 * runs && wrong < 5; seed++) new ModelTest(seed).versions();
         for (int seed = 0; seed < 2 * runs && wrong < 5; seed++) new ModelTest(seed).meetings();
         leadingsByAll();
-        coverage();
+        if (runs >= 400) coverage();
         System.out.println(wrong == 0 ? "ModelTest: all answers are as the model's" : "ModelTest: " + wrong + " wrong");
         if (wrong != 0) System.exit(1);
     }

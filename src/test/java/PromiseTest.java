@@ -425,6 +425,10 @@ public final class PromiseTest {
         due("common(-1, 0, 1, 0, 5)", x.common(-1, 0, 1, 0, 5), UNKNOWN);
         due("common(5, 0, 1, 9, 5)", x.common(5, 0, 1, 9, 5), UNKNOWN);
         due("text", text(x, 5), "A");
+        // one HOLE needs both TREES ALIKE
+        TreeHands v = with("f(aab)", "f(cdc)");
+        due("common", v.common(0, 0, 1, 0, 2), 3);
+        due("text", text(v, 2), "f(ABC)");
         // the same two TREES the other way round are not the same
         TreeHands y = with("f(aba)", "f(bab)", "x(abcdefghi)", "x(bcdefghij)", "x(abcdefgha)", "x(bcdefghib)");
         due("common", y.common(0, 0, 1, 0, 0), 2);
@@ -757,6 +761,11 @@ public final class PromiseTest {
         due("overlap, made of it too great", z.overlap(1, 2, 0), 3);
         due("overlap, made of it too great", z.overlap(2, 1, 0), 3);
         due("overlap, PEAK of 25", z.overlap(3, 1, 1), 3);
+        TreeHands u = ruled("f(AB)=c", "f(AB)=c(AAB)", "f(h(aaaaa)h(bb))=c(aa)", "f(h(aaaaa)h(bbb))=c");
+        due("overlap, 16 made of it", u.overlap(2, 1, 0), 1);
+        due("overlap, 16 made of it", u.overlap(1, 2, 0), 1);
+        due("overlap, 17 made of it", u.overlap(3, 1, 0), 3);
+        due("overlap, 17 made of it", u.overlap(1, 3, 0), 3);
         // a HOLE put again and again: 37 NODES
         TreeHands w = ruled("f(ABCg(AA)g(BB)g(CC))=a", "f(BCDABC)=a");
         due("overlap, doubled", w.overlap(0, 1, 0), 3);
