@@ -19,10 +19,10 @@ public final class BoundsTest {
             BoundsTest::calls, BoundsTest::aNewObject, BoundsTest::say, BoundsTest::wipe, BoundsTest::fault,
             BoundsTest::faultByAllSigns, BoundsTest::read, BoundsTest::node, BoundsTest::sign, BoundsTest::take,
             BoundsTest::alike, BoundsTest::price, BoundsTest::least, BoundsTest::led, BoundsTest::edits,
-            BoundsTest::moved, BoundsTest::common, BoundsTest::twice, BoundsTest::rule, BoundsTest::clear,
+            BoundsTest::moved, BoundsTest::movedOnly, BoundsTest::leastAnew, BoundsTest::common, BoundsTest::twice, BoundsTest::rule, BoundsTest::clear,
             BoundsTest::fits, BoundsTest::make, BoundsTest::walk, BoundsTest::walkEnds, BoundsTest::steps,
-            BoundsTest::overlap, BoundsTest::overlapTooGreat, BoundsTest::meets, BoundsTest::peak,
-            BoundsTest::peakFull, BoundsTest::overlaps, BoundsTest::told
+            BoundsTest::nodesOfWhatCame, BoundsTest::overlap, BoundsTest::overlapTooGreat, BoundsTest::meets, BoundsTest::peak,
+            BoundsTest::peakFull, BoundsTest::overlapInTurn, BoundsTest::overlaps, BoundsTest::told
         };
         for (Runnable one : all) one.run();
         int wrong = Hands.wrong;
@@ -384,6 +384,7 @@ public final class BoundsTest {
         dueRow(Hands.with("a(a)", "a(aa)"), 0, 1, 0, 1);
         dueRow(Hands.with("a(a)", "a(a(a))"), 0, 1, 0, 1);
         dueRow(Hands.with("a(a(a))", "a(a)"), 0, 1, 0, 1, 99);
+        dueRow(Hands.with("b(bb(aa)bbba)", "b(aaa(a))"), 0, 1, 0, 99, 99, 1, 2, 99, 99, 99, 3);
         dueRow(Hands.with("a(bcdefghijklmnpp)", "a(bcdefghijklmnp)"), 0, 1, 0, 1, 2, 3, 4, 5, 6, 7, 8, 9, 10, 11, 12, 13, 14, 99);
         dueRow(Hands.with("b(ac)", "a(c)").due("price(0, 0)", 3).due("price(1, 0)", 3).due("price(2, 0)", 2), 0, 1, 0, 1, 99);
         dueRow(Hands.with("b(ac)", "a(c)").due("price(0, 0)", 3).due("price(1, 0)", 3).due("price(2, 1)", 2), 0, 1, 99, 0, 99);
@@ -440,6 +441,34 @@ public final class BoundsTest {
         }
     }
 
+    private static void movedOnly() {
+        sentence("MOVED: of NODES of s that are not led, and such of t that none is led to");
+        dueEdits(Hands.with("f(aa)", "f(a)"), 0, 1, 2, 0, 1, 0, 0, 0);
+        dueEdits(Hands.with("f(a)", "f(aa)"), 0, 1, 2, 0, 0, 1, 0, 0);
+        // the a of s that is left, and the a of t that is led to
+        Hands.with("f(aa)", "f(a)").due("moved(0, 1, 0)", NONE).due("moved(1, 0, 0)", NONE);
+        sentence("MOVED: all whose NODES are not (nor of what lies within)");
+        // g(m(nop)a) is not led, but what lies within is
+        Hands in = Hands.with("f(g(m(nop)a))", "f(m(nop)g(a))");
+        dueRow(in, 0, 1, 0, 99, 1, 2, 3, 4, 6);
+        dueEdits(in, 0, 1, 6, 0, 1, 1, 0, 0);
+        sentence("13: 5 NODES of s in MOVED pairs, of these two TREES alone");
+        Hands h = Hands.with("f(g(y)m(abcdehi))", "f(m(abcdehi)g(y))", "a", "b");
+        h.due("edits(0, 1, 5)", 2).due("edits(1, 0, 5)", 2).due("edits(2, 3, 5)", 0).due("edits(0, 1, 5)", 2).due("edits(0, 0, 5)", 0);
+    }
+
+    private static void leastAnew() {
+        sentence("THE LEAST is of the TREES and PRICES as they are now");
+        Hands h = Hands.ruled("a=c", "a=b", "a=d").put(0, "a").put(1, "b").due("least(0, 1)", 2);
+        h.due("price(2, 1)", 2).due("least(0, 1)", 1).due("price(2, 9)", 1).due("least(0, 1)", 6).due("led(0, 1, 0)", 99);
+        h.due("price(2, 10)", OUTSIDE).due("least(0, 1)", 6).put(0, "b").due("least(0, 1)", 0).due("led(0, 1, 0)", 0);
+        h.put(1, "a").due("least(0, 1)", 6).due("take(0, 0, 1)", 1).due("least(0, 1)", 0).put(0, "a").put(1, "b");
+        h.due("least(0, 1)", 6).due("make(0, 0, 1)", 1).due("least(0, 1)", 0).put(0, "a").due("edits(0, 1, 0)", 0);
+        h.due("walk(0, true)", 0).due("edits(0, 1, 1)", 0).put(1, "c").due("edits(0, 1, 0)", 1).due("led(0, 1, 0)", 0);
+        h.put(2, "a").due("least(0, 2)", 6).due("common(0, 0, 1, 0, 2)", 0).due("least(0, 2)", 0).put(0, "a").due("least(0, 1)", 6);
+        h.due("peak(0, 1, 0, 1)", 1).due("least(0, 1)", 0).due("moved(0, 1, 0)", NONE).due("take(4, 0, 3)", 1).due("least(3, 1)", 0);
+    }
+
     // ---- 3 common
 
     private static void common() {
@@ -449,6 +478,10 @@ public final class BoundsTest {
         h.due("common(1, 0, 2, 0, 5)", 1).dueText(5, "A").due("common(3, 0, 3, 1, 5)", 1);
         h.dueText(5, "a(a(a(a(a(a(a(a(a(a(a(a(a(a(A))))))))))))))").put(5, "a(cc)").due("common(4, 0, 5, 0, 5)", 1).dueText(5, "a(AA)");
         h.due("common(0, 15, 1, 0, 0)", 1).dueText(0, "A").due("told(20)", 1);
+        sentence("COMMON of NODE i of s and NODE k of t: what is behind them in their TREES is not of it");
+        Hands in = Hands.with("f(g(ab)cd)", "f(g(xb)yd)").due("common(0, 1, 1, 1, 2)", 1).dueText(2, "g(Ab)");
+        in.due("common(0, 2, 1, 2, 2)", 1).dueText(2, "A").due("common(0, 3, 1, 3, 2)", 0).dueText(2, "b").due("told(12)", 1);
+        in.due("common(0, 0, 1, 1, 2)", 1).dueText(2, "A").due("common(0, 5, 1, 5, 2)", 0).dueText(2, "d");
         sentence("15: NO: more than 8");
         Hands eight = Hands.with("x(abcdefghh)", "x(bcdefghii)").due("common(0, 0, 1, 0, 2)", 8).dueText(2, "x(ABCDEFGHH)");
         eight.due("told(22)", 8);
@@ -672,6 +705,9 @@ public final class BoundsTest {
         sentence("with the first RULE that FITS it");
         walks(Hands.ruled("a=b", "a=c"), "a", false, 0, 1, "b");
         walks(Hands.ruled("a=c", "a=b"), "a", true, 0, 1, "c");
+        sentence("21: TREE t becomes its end, whichever was read the last");
+        Hands last = Hands.ruled("a=b").put(0, "c(a)").put(1, "a").due("walk(0, true)", 0).dueText(0, "c(b)").dueText(1, "a");
+        last.due("walk(1, false)", 0).dueText(1, "b").dueText(0, "c(b)");
         sentence("a WALK leaves the other TREES and the PAD alone");
         Hands room = new Hands();
         room(room);
@@ -732,6 +768,20 @@ public final class BoundsTest {
         sentence("22: what overlap and overlaps WALK is not by walk()");
         Hands o = Hands.ruled("a=b", "a=c", "b=d", "c=d").due("overlap(0, 1, 0)", 2).due("overlaps(1)", 2).due("steps()", NONE);
         o.put(0, "a").due("walk(0, true)", 0).due("overlap(0, 1, 0)", 2).due("overlaps(0)", 2).due("clear()", 4).due("steps()", 2);
+    }
+
+    /** What came otherwise than by read has its NODES told as well. */
+    private static void nodesOfWhatCame() {
+        sentence("6: of NODES of TREES that take, common, make, walk, peak made");
+        Hands h = Hands.ruled("a=g(bc)", "k(AB)=m(BA)", "k(g(A)B)=n").put(0, "f(f(dh(a))e)");
+        h.due("take(0, 1, 1)", 4).due("node(1, 0, 1)", NONE).due("node(1, 0, 2)", NONE).due("node(1, 3, 1)", 2).due("node(1, 3, 5)", 2);
+        h.due("make(0, 4, 0)", 8).dueText(0, "f(f(dh(g(bc)))e)").due("node(0, 4, 1)", 3).due("node(0, 5, 1)", 4);
+        h.due("node(0, 6, 2)", 1).due("node(0, 6, 5)", 4).due("node(0, 7, 1)", 0).due("node(0, 7, 2)", 1).due("node(0, 1, 4)", 6);
+        h.due("walk(1, false)", 0).dueText(1, "f(dh(g(bc)))").due("node(1, 5, 1)", 3).due("node(1, 0, 4)", 6).due("node(1, 0, 1)", NONE);
+        h.put(2, "f(xy)").put(3, "f(e(x)z)").due("common(2, 0, 3, 0, 2)", 2).dueText(2, "f(AB)").due("node(2, 1, 3)", 0);
+        h.due("node(2, 2, 1)", 0).due("node(2, 2, 2)", 1).due("node(2, 0, 3)", 2).due("node(2, 2, 0)", 'B');
+        h.due("peak(1, 2, 0, 3)", 4).dueText(3, "k(g(A)B)").due("node(3, 2, 1)", 1).due("node(3, 2, 3)", 0).due("node(3, 3, 3)", 0);
+        h.due("node(3, 3, 2)", 1).due("node(3, 0, 1)", NONE).due("node(3, 2, 5)", 2);
     }
 
     // ---- 5 overlaps
@@ -864,6 +914,27 @@ public final class BoundsTest {
         most.due("peak(0, 1, 1, 0)", 11).dueText(0, "x(g(ABCDEFGa)H)");
         Hands full = Hands.ruled("x(g(A)BCDEFGH)=x(ABCDEFGH)", "g(h(ABCDEF))=h(ABCDEF)").due("peak(0, 1, 1, 0)", FULL);
         full.due("overlap(0, 1, 1)", 2).due("told(10)", 0);
+    }
+
+    private static void overlapInTurn() {
+        sentence("OVERLAP: no call leaves anything to the next");
+        // at the first PARTS that differ there are others that were not looked at yet
+        Hands h = Hands.ruled("f(abcdA)=b", "f(gbcdA)=b", "f(gbcda)=b", "f(AAbBA)=b", "f(CCbDD)=b", "h(AA)=a");
+        h.due("overlap(0, 1, 0)", 0).due("overlap(1, 2, 0)", 2).due("peak(1, 2, 0, 0)", 6).dueText(0, "f(gbcda)");
+        h.due("peak(3, 4, 0, 0)", 6).dueText(0, "f(AAbAA)").due("peak(4, 3, 0, 0)", 6).dueText(0, "f(AAbAA)");
+        h.due("overlap(0, 2, 0)", 0).due("overlap(3, 4, 0)", 2).due("peak(1, 2, 0, 1)", 6).dueText(1, "f(gbcda)");
+        Hands left = Hands.ruled("f(abcdA)=b", "f(gbcdA)=b", "f(abcda)=b", "f(abcdg)=b", "h(gk(x))=c", "k(x)=x");
+        left.due("overlap(0, 1, 0)", 0).due("overlap(4, 5, 2)", 1).due("overlap(2, 3, 0)", 0).due("overlap(4, 5, 2)", 1);
+        sentence("HOLES of the PEAK are A, B, and so on in each PEAK anew");
+        Hands two = Hands.ruled("f(AB)=A", "f(CD)=D", "g(BA)=A", "g(CD)=C").due("peak(0, 1, 0, 0)", 3).dueText(0, "f(AB)");
+        two.due("peak(2, 3, 0, 0)", 3).dueText(0, "g(AB)").due("peak(1, 0, 0, 0)", 3).dueText(0, "f(AB)");
+        sentence("two HOLES that are put one for the other twice");
+        Hands.ruled("f(AA)=b", "f(BB)=b").due("peak(0, 1, 0, 0)", 3).dueText(0, "f(AA)").due("overlap(0, 1, 0)", 2);
+        sentence("MEETS: WALK (from within), both");
+        // from without f(a) is c, from within it is d
+        String[] ways = {"f(a)=c", "a=b", "f(b)=d"};
+        Hands.ruled("s=f(a)", "s=d").rules(ways).due("overlap(0, 1, 0)", 2).due("overlap(1, 0, 0)", 2);
+        Hands.ruled("s=f(a)", "s=c").rules(ways).due("overlap(0, 1, 0)", 1).due("overlap(1, 0, 0)", 1);
     }
 
     private static void dueOverlaps(Hands h, int all, int meet, int not, int great) {

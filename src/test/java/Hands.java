@@ -29,7 +29,7 @@ final class Hands {
             yes |= word.equals("true");
             a[k] = word.equals("true") || word.equals("false") ? 0 : number(word);
         }
-        int answer = call(text.substring(0, open), a, yes);
+        int answer = ask(text.substring(0, open) + a.length, a, yes);
         boolean shown = !text.startsWith("say") && !text.startsWith("sign");
         if (shown) past.add(text + " = " + answer);
         return answer;
@@ -41,10 +41,11 @@ final class Hands {
         return Integer.parseInt(word);
     }
 
-    private int call(String name, int[] a, boolean yes) {
+    /** The name is the call's with the number of its arguments behind it. */
+    int ask(String name, int[] a, boolean yes) {
         calls++;
         if (calls > MOST_CALLS) throw new IllegalStateException("the test itself goes beyond " + MOST_CALLS + " calls");
-        switch (name + a.length) {
+        switch (name) {
             case "say1": return x.say(a[0]);
             case "wipe0": return x.wipe();
             case "fault0": return x.fault();
@@ -70,7 +71,7 @@ final class Hands {
             case "peak4": return x.peak(a[0], a[1], a[2], a[3]);
             case "overlaps1": return x.overlaps(a[0]);
             case "told1": return x.told(a[0]);
-            default: throw new IllegalStateException("no such call: " + name + " of " + a.length);
+            default: throw new IllegalStateException("no such call: " + name);
         }
     }
 
