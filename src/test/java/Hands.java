@@ -6,6 +6,8 @@ final class Hands {
     /** Nothing is promised beyond this call, so no test may lean on one. */
     static final int MOST_CALLS = 512;
     static int wrong = 0;
+    /** How often something was due. */
+    static int checks = 0;
     /** The sentence of the document that is on trial. */
     static String sentence = "";
 
@@ -78,6 +80,7 @@ final class Hands {
     // ---- what is due
 
     Hands due(String text, int want) {
+        checks++;
         int got = call(text);
         if (got != want) report(text + " answered " + got + ", due is " + want);
         return this;
@@ -85,6 +88,7 @@ final class Hands {
 
     /** What TREE t is written as; empty: "". */
     Hands dueText(int t, String want) {
+        checks++;
         String got = text(t);
         if (!got.equals(want)) report("TREE " + t + " is " + got + ", due is " + want);
         return this;
