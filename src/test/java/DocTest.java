@@ -361,6 +361,9 @@ public final class DocTest {
         dueRow(Hands.with("f(a)", "f(aba)"), 0, 1);
         dueRow(Hands.with("f(aba)", "f(a)"), 0, 1, 99, 99);
         dueRow(Hands.with("f(aab)", "f(ba)").due("price(2, 9)", 2).due("least(0, 1)", 9), 0, 2, 99, 99);
+        // the row goes by its last NODES, too, when the first are the same
+        dueRow(Hands.with("a(bcdefghijklmnpp)", "a(bcdefghijklmnp)"), 0, 1, 2, 3, 4, 5, 6, 7, 8, 9, 10, 11, 12, 13, 14, 99);
+        dueRow(Hands.with("a(bcdefghijklmppn)", "a(bcdefghijklmnp)").due("price(2, 9)", 2), 0, 1, 2, 3, 4, 5, 6, 7, 8, 9, 10, 11, 12, 14, 99, 99);
         // all is free: the first row leads all that can be, whatever the names
         dueRow(Hands.with("b(ac)", "a(c)").due("price(0, 0)", 3).due("price(1, 0)", 3).due("price(2, 0)", 2), 0, 1, 99);
 
@@ -389,7 +392,10 @@ public final class DocTest {
         dueCommon("f(g(ab)c)", "f(g(xb)y)", 2, "f(g(Ab)B)");
         dueCommon("f(ab)", "f(abc)", 1, "A");
         dueCommon("f(ab)", "g(ab)", 1, "A");
-        Hands.with("f(g(ab)c)", "h(ig(xb))").due("common(0, 1, 1, 2, 2)", 1).dueText(2, "g(Ab)");
+        dueCommon(FLAT16, FLAT16, 0, FLAT16);
+        dueCommon(CHAIN16, CHAIN16.replace("b", "c"), 1, CHAIN16.replace("b", "A"));
+        // what is behind NODE i and NODE k in their TREES is not of it
+        Hands.with("f(g(ab)cd)", "h(ig(xb)yd)").due("common(0, 1, 1, 2, 2)", 1).dueText(2, "g(Ab)").due("told(12)", 3);
         says("else a HOLE: the same for the same two TREES (ALIKE both), else the next one (A, B, and so on as written; more than 8: it can not be told).");
         dueCommon("f(aba)", "f(xyx)", 2, "f(ABA)");
         dueCommon("f(aa)", "f(xy)", 2, "f(AB)");
@@ -443,7 +449,11 @@ public final class DocTest {
         dueWalk(Hands.ruled("g(A)=h(A)", great, "b=c"), "f(bg(a)b)", true, 2, 1, "f(cg(a)b)");
         dueWalk(Hands.ruled("g(A)=h(A)", great, "b=c"), "f(g(b)g(d)a)", true, 2, 3, "f(h(c)h(d)a)");
         dueWalk(Hands.ruled("f(A)=d", "a=b"), "f(a)", true, 0, 2, "d");
-        // g(b) is done ahead of a, though a lies deeper or not
+        // NODE 0 comes last in each WALK, also behind one of a greater TREE
+        Hands again = Hands.ruled("f(A)=d", "a=b");
+        dueWalk(again, "f(h(a))", true, 0, 2, "d");
+        dueWalk(again, "f(a)", true, 0, 2, "d");
+        // g(b) is done ahead of a, though a lies deeper
         dueWalk(Hands.ruled("g(A)=h(A)", great), "f(g(b)k(l(a)))", true, 2, 1, "f(h(b)k(l(a)))");
         says("with the first RULE that FITS it, till:");
         dueWalk(Hands.ruled("a=b", "a=c"), "f(a)", false, 0, 1, "f(b)");
@@ -461,6 +471,9 @@ public final class DocTest {
         dueWalk(Hands.ruled("a=b", "b=a"), "a", false, 1, 2, "a");
         dueWalk(Hands.ruled("a=b", "b=c", "c=b"), "a", true, 1, 3, "b");
         dueWalk(counter("r(z)=l(z)", "r(y)=l(z)"), "t(l(o(i(i(o(y))))))", true, 1, 100, "t(o(o(o(o(l(z))))))");
+        // another TREE with as many NODES, or the same LABELS, is not as it was
+        dueWalk(Hands.ruled("f(a(x)b)=e(bxb)"), "f(a(x)b)", false, 0, 1, "e(bxb)");
+        dueWalk(Hands.ruled("f(a(x)b)=f(ax(b))"), "f(a(x)b)", true, 0, 1, "f(ax(b))");
         says("3 100 steps are done and one FITS yet,");
         dueWalk(counter("r(z)=z"), "t(l(o(i(i(o(o(z)))))))", true, 3, 100, "t(o(o(o(o(o(r(z)))))))");
         dueWalk(counter("r(z)=l(z)", "r(y)=l(z)"), "t(o(l(i(i(o(y))))))", false, 3, 100, "t(o(o(o(o(r(z))))))");
@@ -499,6 +512,9 @@ public final class DocTest {
         Hands.ruled("f(A)=g(A)", "f(A)=h(A)", "g(a)=c", "h(a)=c").due("overlap(0, 1, 0)", 1).rules("g(A)=c", "h(A)=c").due("overlap(0, 1, 0)", 2);
         // NODE 2 of f(A g(A)) is NODE 4 of the PEAK f(h(ab) g(h(ab)))
         Hands.ruled("f(Ag(A))=k(A)", "g(h(AB))=m(BA)", "f(h(AB)m(BA))=k(h(AB))").due("overlap(0, 1, 2)", 2);
+        // what b makes counts, though a WALK of the PEAK would take another RULE there
+        Hands.ruled("f(g(a))=p", "g(a)=r", "g(a)=q", "f(q)=p").due("overlap(0, 2, 1)", 2).due("overlap(0, 1, 1)", 1);
+        Hands.ruled("f(Ag(A))=k(A)", "g(h(A))=r", "g(h(A))=m", "f(h(A)m)=k(h(A))").due("overlap(0, 2, 2)", 2).due("overlap(0, 1, 2)", 1);
         // from within e(a) is d, from without it is c
         Hands.ruled("s=e(a)", "s=d", "e(a)=c", "a=b", "e(b)=d").due("overlap(0, 1, 0)", 2).due("overlap(1, 0, 0)", 2);
         Hands.ruled("s=e(a)", "s=c", "e(a)=c", "a=b", "e(b)=d").due("overlap(0, 1, 0)", 1).due("overlap(1, 0, 0)", 1);
@@ -567,8 +583,9 @@ public final class DocTest {
         for (int i = 0; i < want.length; i++) {
             for (int w = 0; w < 6; w++) nodes.due("node(0, " + i + ", " + w + ")", want[i][w]);
         }
+        nodes.due("take(0, 3, 1)", 2).due("node(1, 0, 1)", NONE).due("node(1, 0, 2)", NONE).due("node(1, 1, 1)", 0).due("node(1, 1, 5)", 1);
         says("UNKNOWN; OUTSIDE.");
-        nodes.due("node(0, 6, 0)", UNKNOWN).due("node(0, -1, 0)", UNKNOWN).due("node(1, 0, 0)", UNKNOWN).due("node(6, 0, 0)", UNKNOWN).due("node(0, 0, 6)", OUTSIDE).due("node(0, 0, -1)", OUTSIDE);
+        nodes.due("node(0, 6, 0)", UNKNOWN).due("node(0, -1, 0)", UNKNOWN).due("node(2, 0, 0)", UNKNOWN).due("node(6, 0, 0)", UNKNOWN).due("node(0, 0, 6)", OUTSIDE).due("node(0, 0, -1)", OUTSIDE);
 
         says("`int sign(int t, int i)`: Sign i of a TREE as it is written; i = -1: how many; NONE.");
         Hands.with("a(b(cD)e)").due("sign(0, -1)", 9).due("sign(0, 0)", 'a').due("sign(0, 1)", '(').due("sign(0, 6)", ')').due("sign(0, 7)", 'e').due("sign(0, 8)", ')')
@@ -608,6 +625,10 @@ public final class DocTest {
         dueEdits(Hands.with("f(g(ab)c)", "f(axc)"), 4, 1, 1, 0, 0, 0);
         dueEdits(Hands.with("f(axc)", "f(g(ab)c)"), 4, 1, 0, 1, 0, 0);
         dueEdits(Hands.with("f(xp(q)g(abcd))", "f(g(abcd)xp(q)r)").due("price(2, 9)", 2), 6, 0, 3, 4, 2, 3);
+        // each pair of TREES anew
+        Hands turns = Hands.with("f(g(y)m(abcdehi))", "f(m(abcdehi)g(y))", "a", "b");
+        turns.due("edits(0, 1, 0)", 9).due("edits(0, 1, 4)", 1).due("edits(0, 1, 5)", 2).due("edits(2, 3, 0)", 1).due("edits(2, 3, 1)", 1).due("edits(2, 3, 5)", 0);
+        turns.due("edits(2, 2, 1)", 0).due("edits(1, 0, 0)", 9).due("edits(1, 0, 4)", 1).due("edits(1, 0, 5)", 2);
         says("UNKNOWN; OUTSIDE.");
         Hands.with("a", "b").due("edits(0, 2, 0)", UNKNOWN).due("edits(2, 0, 0)", UNKNOWN).due("edits(6, 0, 0)", UNKNOWN).due("edits(0, -1, 0)", UNKNOWN).due("edits(0, 1, 6)", OUTSIDE).due("edits(0, 1, -1)", OUTSIDE);
 
@@ -644,7 +665,7 @@ public final class DocTest {
 
         says("`int clear()`: RULES go: how many there were.");
         new Hands().due("clear()", 0);
-        Hands.ruled("a=b", "a=c").put(0, "a").due("clear()", 2).due("clear()", 0).due("told(1)", 0).due("fits(0, 0)", 0).due("overlaps(0)", 0);
+        Hands.ruled("a=b", "a=c").put(0, "a").due("overlaps(0)", 2).due("clear()", 2).due("clear()", 0).due("told(1)", 0).due("fits(0, 0)", 0).due("overlaps(0)", 0);
 
         says("`int fits(int t, int i)`: RULES that FIT a NODE, as bits.");
         Hands.ruled("a=b", "f(A)=A", "f(a)=b", "f(b)=c", "a=c", "f(A)=a").put(0, "f(a)").due("fits(0, 0)", 2 + 4 + 32).due("fits(0, 1)", 1 + 16).put(0, "z").due("fits(0, 0)", 0);
