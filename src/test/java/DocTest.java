@@ -242,15 +242,19 @@ public final class DocTest {
         room().due("overlap(0, 3, 1)", UNKNOWN).due("peak(0, 1, 0, 6)", UNKNOWN).due("rule(4, 3)", UNKNOWN);
         new Hands().say("!").due("read(6)", UNKNOWN).due("wipe()", 1).say(FLAT17).due("read(6)", UNKNOWN);
         new Hands().say("a".repeat(60)).due("say(32)", OUTSIDE);
-        Hands.ruled("a=b").put(0, "f(A)").due("make(0, 0, 0)", STATE).put(1, "f(Aabcdefgh)").put(2, "f(abcdefghi)").due("common(1, 0, 2, 0, 3)", STATE);
+        Hands.ruled("a=b").put(0, "f(A)").due("make(0, 0, 0)", STATE).put(1, "f(Aabcdefgh)").put(2, "f(abcdefghi)")
+            .due("common(1, 0, 2, 0, 3)", STATE);
         Hands.ruled("a=b", "a=b", "a=b", "a=b", "a=b", "a=b").put(0, "A").due("rule(0, 4)", FULL).due("rule(4, 0)", FULL);
         says("UNKNOWN -1 (there is no such TREE, NODE, RULE),");
-        room().due("node(6, 0, 0)", -1).due("node(-1, 0, 0)", -1).due("node(0, 8, 0)", -1).due("node(0, -1, 0)", -1).due("make(0, 0, 3)", -1);
+        room().due("node(6, 0, 0)", -1).due("node(-1, 0, 0)", -1).due("node(0, 8, 0)", -1).due("node(0, -1, 0)", -1)
+            .due("make(0, 0, 3)", -1);
         says("OUTSIDE -2 (another number is not as told),");
-        room().due("say(32)", -2).due("node(0, 0, 6)", -2).due("price(3, 0)", -2).due("price(0, 10)", -2).due("edits(0, 2, 6)", -2);
+        room().due("say(32)", -2).due("node(0, 0, 6)", -2).due("price(3, 0)", -2).due("price(0, 10)", -2)
+            .due("edits(0, 2, 6)", -2);
         room().due("twice(0, 3)", -2).due("overlaps(4)", -2).due("told(2)", -2);
         says("STATE -3 (as told),");
-        room().due("common(0, 0, 1, 0, 5)", -3).due("fits(1, 0)", -3).due("make(1, 0, 0)", -3).due("walk(1, true)", -3).due("peak(0, 1, 0, 5)", -3);
+        room().due("common(0, 0, 1, 0, 5)", -3).due("fits(1, 0)", -3).due("make(1, 0, 0)", -3).due("walk(1, true)", -3)
+            .due("peak(0, 1, 0, 5)", -3);
         says("FULL -4,");
         new Hands().say("a".repeat(60)).due("say(97)", -4).due("wipe()", 60).say(FLAT17).due("read(0)", -4);
         Hands.ruled("b=c(d)").put(0, FLAT16).due("make(0, 1, 0)", -4);
@@ -271,7 +275,8 @@ public final class DocTest {
         String was = room().state();
         String is = asked.state();
         due(is.equals(was), "it is " + is + ", and was " + was);
-        Hands full = Hands.with("c").say("a" + "b".repeat(59)).due("say(98)", FULL).due("read(0)", NO).due("told(0)", 60).dueText(0, "c");
+        Hands full = Hands.with("c").say("a" + "b".repeat(59)).due("say(98)", FULL).due("read(0)", NO).due("told(0)", 60)
+            .dueText(0, "c");
         full.due("wipe()", 60).say(FLAT17).due("read(0)", FULL).due("told(0)", 19).dueText(0, "c");
     }
 
@@ -314,16 +319,19 @@ public final class DocTest {
         for (int t = 0; t < 6; t++) six.due("told(1" + t + ")", 0).put(t, "a").due("told(1" + t + ")", 1);
         six.say("a").due("read(6)", UNKNOWN).due("read(-1)", UNKNOWN).due("wipe()", 1);
         six.say(FLAT16).due("read(0)", 16).say(FLAT17).due("read(0)", FULL);
-        Hands.with("f(g(ab)c)").due("node(0, 0, 0)", 'f').due("node(0, 1, 0)", 'g').due("node(0, 2, 0)", 'a').due("node(0, 3, 0)", 'b').due("node(0, 4, 0)", 'c');
+        Hands.with("f(g(ab)c)").due("node(0, 0, 0)", 'f').due("node(0, 1, 0)", 'g').due("node(0, 2, 0)", 'a')
+            .due("node(0, 3, 0)", 'b').due("node(0, 4, 0)", 'c');
         says("one is PLAIN, if it has no HOLE.");
         Hands.with("f(ab)", "f(aA)", "H").due("fits(0, 1)", 0).due("fits(1, 1)", STATE).due("fits(2, 0)", STATE);
 
         says("PARTS of a NODE: TREES right in it.");
-        Hands.with("f(g(ab)c)").due("node(0, 0, 3)", 2).due("node(0, 1, 3)", 2).due("node(0, 2, 3)", 0).due("node(0, 3, 1)", 1).due("node(0, 4, 1)", 0);
+        Hands.with("f(g(ab)c)").due("node(0, 0, 3)", 2).due("node(0, 1, 3)", 2).due("node(0, 2, 3)", 0).due("node(0, 3, 1)", 1)
+            .due("node(0, 4, 1)", 0);
         says("SIZE of a NODE: NODES of its TREE, it too.");
         Hands.with("f(g(ab)c)").due("node(0, 0, 4)", 5).due("node(0, 1, 4)", 3).due("node(0, 2, 4)", 1).due("node(0, 4, 4)", 1);
         says("Two NODES are ALIKE, if their TREES are written alike.");
-        Hands.with("f(g(ab)g(ab)g(ba)h(ab)g(a(b)))", "g(ab)").due("alike(0, 1, 0, 4)", 1).due("alike(0, 1, 1, 0)", 1).due("alike(0, 1, 0, 7)", 0)
+        Hands.with("f(g(ab)g(ab)g(ba)h(ab)g(a(b)))", "g(ab)").due("alike(0, 1, 0, 4)", 1).due("alike(0, 1, 1, 0)", 1)
+            .due("alike(0, 1, 0, 7)", 0)
             .due("alike(0, 1, 0, 10)", 0).due("alike(0, 1, 0, 13)", 0).due("alike(0, 2, 0, 9)", 1);
     }
 
@@ -334,7 +342,8 @@ public final class DocTest {
             h.due("price(" + w + ", 9)", w == 2 ? 2 : 3).due("price(" + w + ", 0)", 9).due("price(" + w + ", 0)", 0);
         }
         Hands.with("f(a)", "f", "g").due("least(0, 1)", 3).due("least(1, 0)", 3).due("least(1, 2)", 2);
-        Hands.with("f(a)", "f", "g").due("price(0, 9)", 3).due("least(0, 1)", 9).due("least(1, 0)", 3).due("price(1, 8)", 3).due("least(1, 0)", 8)
+        Hands.with("f(a)", "f", "g").due("price(0, 9)", 3).due("least(0, 1)", 9).due("least(1, 0)", 3).due("price(1, 8)", 3)
+            .due("least(1, 0)", 8)
             .due("price(2, 7)", 2).due("least(1, 2)", 7);
 
         says("A LEADING of TREE s to t: some NODES of s, each to one of t, no two to one,");
@@ -348,12 +357,14 @@ public final class DocTest {
         dueRow(Hands.with("a(bc)", "a(cb)").due("price(2, 9)", 2).due("least(0, 1)", 6), 0, 2, 99);
         dueRow(Hands.with("a(b(x)c(y))", "a(c(y)b(x))").due("price(2, 9)", 2).due("least(0, 1)", 12), 0, 3, 4, 99, 99);
         says("(HOLES are LABELS here.)");
-        Hands.with("f(A)", "f(B)", "f(a)").due("least(0, 0)", 0).due("least(0, 1)", 2).due("least(0, 2)", 2).due("led(0, 1, 1)", 1);
+        Hands.with("f(A)", "f(B)", "f(a)").due("least(0, 0)", 0).due("least(0, 1)", 2).due("least(0, 2)", 2)
+            .due("led(0, 1, 1)", 1);
         says("Its PRICE: DROP for each NODE of s that is not led, ADD for each of t that none is led to, RENAME for each led to one of another LABEL.");
         Hands price = Hands.with("a(bc)", "a(x)").due("price(0, 5)", 3).due("price(1, 7)", 3).due("price(2, 1)", 2);
         price.due("least(0, 1)", 1 + 5).due("least(1, 0)", 1 + 7).put(2, "m(no)").due("least(0, 2)", 3);
         // no led ones at all: two dropped, three added
-        Hands.with("b(c)", "m(no)").due("price(0, 2)", 3).due("price(1, 1)", 3).due("price(2, 9)", 2).due("least(0, 1)", 2 * 2 + 3);
+        Hands.with("b(c)", "m(no)").due("price(0, 2)", 3).due("price(1, 1)", 3).due("price(2, 9)", 2)
+            .due("least(0, 1)", 2 * 2 + 3);
         says("THE LEAST: the LEADING of the least PRICE, of several the first by rows: for each NODE of s, in order, its partner, or 99 without one.");
         dueRow(Hands.with("f(ab)", "f(ba)").due("least(0, 1)", 4), 0, 1, 2);
         dueRow(Hands.with("a", "b").due("price(2, 6)", 2).due("least(0, 1)", 6), 0);
@@ -363,7 +374,8 @@ public final class DocTest {
         dueRow(Hands.with("f(aab)", "f(ba)").due("price(2, 9)", 2).due("least(0, 1)", 9), 0, 2, 99, 99);
         // the row goes by its last NODES, too, when the first are the same
         dueRow(Hands.with("a(bcdefghijklmnpp)", "a(bcdefghijklmnp)"), 0, 1, 2, 3, 4, 5, 6, 7, 8, 9, 10, 11, 12, 13, 14, 99);
-        dueRow(Hands.with("a(bcdefghijklmppn)", "a(bcdefghijklmnp)").due("price(2, 9)", 2), 0, 1, 2, 3, 4, 5, 6, 7, 8, 9, 10, 11, 12, 14, 99, 99);
+        dueRow(Hands.with("a(bcdefghijklmppn)", "a(bcdefghijklmnp)")
+            .due("price(2, 9)", 2), 0, 1, 2, 3, 4, 5, 6, 7, 8, 9, 10, 11, 12, 14, 99, 99);
         // all is free: the first row leads all that can be, whatever the names
         dueRow(Hands.with("b(ac)", "a(c)").due("price(0, 0)", 3).due("price(1, 0)", 3).due("price(2, 0)", 2), 0, 1, 99);
 
@@ -433,7 +445,8 @@ public final class DocTest {
         dueFits("f(AB)=a", "g(cd)", 0);
         dueFits("f(g(A))=a", "f(c)", 0);
         dueFits("f=a", "f(c)", 0);
-        Hands.ruled("g(A)=a").put(0, "f(g(b)c)").due("fits(0, 0)", 0).due("fits(0, 1)", 1).due("fits(0, 2)", 0).put(1, "g(B)").due("fits(1, 0)", STATE);
+        Hands.ruled("g(A)=a").put(0, "f(g(b)c)").due("fits(0, 0)", 0).due("fits(0, 1)", 1).due("fits(0, 2)", 0).put(1, "g(B)")
+            .due("fits(1, 0)", STATE);
         says("DONE there: the NODE's TREE becomes right with HOLES put in so.");
         dueMade("g(AB)=h(BAB)", "f(cg(d(e)b)c)", 2, "f(ch(bd(e)b)c)");
         dueMade("g(AB)=B", "f(cg(d(e)b)c)", 2, "f(cbc)");
@@ -487,34 +500,41 @@ public final class DocTest {
 
     private static void termsOfOverlaps() {
         says("======== 5 OVERLAP of RULE a and RULE b at NODE i of a's left (no HOLE; not NODE 0, if a and b are one):");
-        Hands one = Hands.ruled("f(f(A))=A", "f(f(A))=A").due("overlap(0, 0, 0)", NO).due("overlap(0, 0, 1)", 2).due("overlap(0, 0, 2)", NO);
+        Hands one = Hands.ruled("f(f(A))=A", "f(f(A))=A").due("overlap(0, 0, 0)", NO).due("overlap(0, 0, 1)", 2)
+            .due("overlap(0, 0, 2)", NO);
         one.due("overlap(0, 1, 0)", 2).due("overlap(1, 0, 0)", 2).due("overlap(0, 1, 2)", NO).due("overlap(0, 0, 3)", UNKNOWN);
         // NODE i is of a's left, and all of b's left comes there
-        Hands in = Hands.ruled("f(g(A)b)=b", "g(c)=b").due("overlap(0, 1, 0)", 0).due("overlap(0, 1, 1)", 1).due("overlap(0, 1, 3)", 0).due("overlap(1, 0, 0)", 0);
+        Hands in = Hands.ruled("f(g(A)b)=b", "g(c)=b").due("overlap(0, 1, 0)", 0).due("overlap(0, 1, 1)", 1)
+            .due("overlap(0, 1, 3)", 0).due("overlap(1, 0, 0)", 0);
         in.due("overlap(1, 0, 1)", 0);
         says("both HOLES held for different, HOLES can be put TREES with HOLES for so that left of b is what is at NODE i of left of a");
         duePeak("f(Ab)=A", "f(g(A)B)=A", 0, "f(g(A)b)");
         duePeak("f(AB)=A", "f(BA)=A", 0, "f(AB)");
         duePeak("f(f(A))=A", "f(f(A))=A", 1, "f(f(f(A)))");
-        Hands.ruled("f(ab)=c", "f(AA)=c", "f(Ac)=c", "f(AB)=c").due("overlap(0, 1, 0)", 0).due("overlap(0, 2, 0)", 0).due("overlap(0, 3, 0)", 2).due("overlap(1, 2, 0)", 2);
+        Hands.ruled("f(ab)=c", "f(AA)=c", "f(Ac)=c", "f(AB)=c").due("overlap(0, 1, 0)", 0).due("overlap(0, 2, 0)", 0)
+            .due("overlap(0, 3, 0)", 2).due("overlap(1, 2, 0)", 2);
         says("(in the most general way; a HOLE is never put a TREE with itself within).");
         duePeak("f(AB)=A", "f(AB)=A", 0, "f(AB)");
         duePeak("f(ABC)=A", "f(AAB)=A", 0, "f(AAB)");
         duePeak("f(AAB)=A", "f(ABB)=A", 0, "f(AAA)");
-        Hands.ruled("f(AA)=c", "f(g(A)A)=c", "f(Ag(A))=c").due("overlap(0, 1, 0)", 0).due("overlap(1, 0, 0)", 0).due("overlap(1, 2, 0)", 0).due("overlaps(0)", 0);
+        Hands.ruled("f(AA)=c", "f(g(A)A)=c", "f(Ag(A))=c").due("overlap(0, 1, 0)", 0).due("overlap(1, 0, 0)", 0)
+            .due("overlap(1, 2, 0)", 0).due("overlaps(0)", 0);
         says("The PEAK: left of a so put.");
         duePeak("f(Ag(A))=c", "g(h(B))=c", 2, "f(h(A)g(h(A)))");
         duePeak("p(f(AB)C)=A", "f(aA)=A", 1, "p(f(aA)B)");
 
         says("It MEETS, if both what a makes of it at NODE 0 and what b makes of it at NODE i, HOLES being LABELS of their own (each unlike all others), WALK (from within) to one and the same TREE (ended by 0 both).");
-        Hands.ruled("a=b", "a=c").due("overlap(0, 1, 0)", 1).rules("b=d", "c=d").due("overlap(0, 1, 0)", 2).rules("d=d").due("overlap(0, 1, 0)", 1);
+        Hands.ruled("a=b", "a=c").due("overlap(0, 1, 0)", 1).rules("b=d", "c=d").due("overlap(0, 1, 0)", 2).rules("d=d")
+            .due("overlap(0, 1, 0)", 1);
         Hands.ruled("f(AB)=A", "f(AB)=B").due("overlap(0, 1, 0)", 1);
-        Hands.ruled("f(A)=g(A)", "f(A)=h(A)", "g(a)=c", "h(a)=c").due("overlap(0, 1, 0)", 1).rules("g(A)=c", "h(A)=c").due("overlap(0, 1, 0)", 2);
+        Hands.ruled("f(A)=g(A)", "f(A)=h(A)", "g(a)=c", "h(a)=c").due("overlap(0, 1, 0)", 1).rules("g(A)=c", "h(A)=c")
+            .due("overlap(0, 1, 0)", 2);
         // NODE 2 of f(A g(A)) is NODE 4 of the PEAK f(h(ab) g(h(ab)))
         Hands.ruled("f(Ag(A))=k(A)", "g(h(AB))=m(BA)", "f(h(AB)m(BA))=k(h(AB))").due("overlap(0, 1, 2)", 2);
         // what b makes counts, though a WALK of the PEAK would take another RULE there
         Hands.ruled("f(g(a))=p", "g(a)=r", "g(a)=q", "f(q)=p").due("overlap(0, 2, 1)", 2).due("overlap(0, 1, 1)", 1);
-        Hands.ruled("f(Ag(A))=k(A)", "g(h(A))=r", "g(h(A))=m", "f(h(A)m)=k(h(A))").due("overlap(0, 2, 2)", 2).due("overlap(0, 1, 2)", 1);
+        Hands.ruled("f(Ag(A))=k(A)", "g(h(A))=r", "g(h(A))=m", "f(h(A)m)=k(h(A))").due("overlap(0, 2, 2)", 2)
+            .due("overlap(0, 1, 2)", 1);
         // from within e(a) is d, from without it is c
         Hands.ruled("s=e(a)", "s=d", "e(a)=c", "a=b", "e(b)=d").due("overlap(0, 1, 0)", 2).due("overlap(1, 0, 0)", 2);
         Hands.ruled("s=e(a)", "s=c", "e(a)=c", "a=b", "e(b)=d").due("overlap(0, 1, 0)", 1).due("overlap(1, 0, 0)", 1);
@@ -553,18 +573,23 @@ public final class DocTest {
     private static void promisesOfTrees() {
         says("`TreeHands()`: PAD is empty; TREES are, too; no RULES.");
         Hands made = new Hands().due("told(0)", 0).due("fault()", 0).due("told(1)", 0).due("overlaps(0)", 0).due("clear()", 0);
-        for (int t = 0; t < 6; t++) made.due("told(1" + t + ")", 0).due("sign(" + t + ", -1)", UNKNOWN).due("node(" + t + ", 0, 0)", UNKNOWN);
+        for (int t = 0; t < 6; t++) made.due("told(1" + t + ")", 0).due("sign(" + t + ", -1)", UNKNOWN)
+            .due("node(" + t + ", 0, 0)", UNKNOWN);
 
         says("`int say(int sign)`: A sign more: how many.");
-        new Hands().due("say(97)", 1).due("say(40)", 2).due("say(98)", 3).due("say(41)", 4).due("fault()", NONE).due("read(0)", 2).dueText(0, "a(b)").due("say(97)", 1);
+        new Hands().due("say(97)", 1).due("say(40)", 2).due("say(98)", 3).due("say(41)", 4).due("fault()", NONE)
+            .due("read(0)", 2).dueText(0, "a(b)").due("say(97)", 1);
         says("OUTSIDE; FULL.");
-        new Hands().due("say(32)", OUTSIDE).due("say(127)", OUTSIDE).due("say(MIN)", OUTSIDE).due("say(MAX)", OUTSIDE).say("(".repeat(60)).due("say(40)", FULL);
+        new Hands().due("say(32)", OUTSIDE).due("say(127)", OUTSIDE).due("say(MIN)", OUTSIDE).due("say(MAX)", OUTSIDE)
+            .say("(".repeat(60)).due("say(40)", FULL);
 
         says("`int wipe()`: Signs go: how many there were.");
-        new Hands().due("wipe()", 0).say("a(b").due("wipe()", 3).due("wipe()", 0).due("told(0)", 0).say("c").due("read(0)", 1).dueText(0, "c");
+        new Hands().due("wipe()", 0).say("a(b").due("wipe()", 3).due("wipe()", 0).due("told(0)", 0).say("c").due("read(0)", 1)
+            .dueText(0, "c");
 
         says("`int fault()`: THE FAULT; NONE.");
-        new Hands().due("fault()", 0).say("a").due("fault()", NONE).say("(").due("fault()", 2).say("b").due("fault()", 3).say(")").due("fault()", NONE).say(")").due("fault()", 4);
+        new Hands().due("fault()", 0).say("a").due("fault()", NONE).say("(").due("fault()", 2).say("b").due("fault()", 3)
+            .say(")").due("fault()", NONE).say(")").due("fault()", 4);
 
         says("`int read(int t)`: A TREE becomes what is on the PAD (it is empty then): NODES.");
         for (int t = 0; t < 6; t++) {
@@ -573,8 +598,10 @@ public final class DocTest {
             h.put(t, "d").dueText(t, "d");
         }
         says("UNKNOWN; FULL: more than 16 NODES; NO: there is a FAULT (ahead).");
-        new Hands().say("a").due("read(-1)", UNKNOWN).due("read(6)", UNKNOWN).due("told(0)", 1).due("wipe()", 1).due("read(6)", UNKNOWN);
-        new Hands().say(FLAT16).due("read(0)", 16).say(FLAT17).due("read(0)", FULL).due("told(0)", 19).say("!").due("read(0)", NO).due("told(0)", 20).dueText(0, FLAT16);
+        new Hands().say("a").due("read(-1)", UNKNOWN).due("read(6)", UNKNOWN).due("told(0)", 1).due("wipe()", 1)
+            .due("read(6)", UNKNOWN);
+        new Hands().say(FLAT16).due("read(0)", 16).say(FLAT17).due("read(0)", FULL).due("told(0)", 19).say("!")
+            .due("read(0)", NO).due("told(0)", 20).dueText(0, FLAT16);
         new Hands().due("read(0)", NO).say("a(").due("read(0)", NO).due("told(0)", 2);
 
         says("`int node(int t, int i, int what)`: Of a NODE: 0 its LABEL (sign), 1 the NODE whose PART it is (NONE), 2 which PART (NONE), 3 how many PARTS, 4 SIZE, 5 how deep (0: NODE 0).");
@@ -583,43 +610,56 @@ public final class DocTest {
         for (int i = 0; i < want.length; i++) {
             for (int w = 0; w < 6; w++) nodes.due("node(0, " + i + ", " + w + ")", want[i][w]);
         }
-        nodes.due("take(0, 3, 1)", 2).due("node(1, 0, 1)", NONE).due("node(1, 0, 2)", NONE).due("node(1, 1, 1)", 0).due("node(1, 1, 5)", 1);
+        nodes.due("take(0, 3, 1)", 2).due("node(1, 0, 1)", NONE).due("node(1, 0, 2)", NONE).due("node(1, 1, 1)", 0)
+            .due("node(1, 1, 5)", 1);
         says("UNKNOWN; OUTSIDE.");
-        nodes.due("node(0, 6, 0)", UNKNOWN).due("node(0, -1, 0)", UNKNOWN).due("node(2, 0, 0)", UNKNOWN).due("node(6, 0, 0)", UNKNOWN).due("node(0, 0, 6)", OUTSIDE).due("node(0, 0, -1)", OUTSIDE);
+        nodes.due("node(0, 6, 0)", UNKNOWN).due("node(0, -1, 0)", UNKNOWN).due("node(2, 0, 0)", UNKNOWN)
+            .due("node(6, 0, 0)", UNKNOWN).due("node(0, 0, 6)", OUTSIDE).due("node(0, 0, -1)", OUTSIDE);
 
         says("`int sign(int t, int i)`: Sign i of a TREE as it is written; i = -1: how many; NONE.");
-        Hands.with("a(b(cD)e)").due("sign(0, -1)", 9).due("sign(0, 0)", 'a').due("sign(0, 1)", '(').due("sign(0, 6)", ')').due("sign(0, 7)", 'e').due("sign(0, 8)", ')')
+        Hands.with("a(b(cD)e)").due("sign(0, -1)", 9).due("sign(0, 0)", 'a').due("sign(0, 1)", '(').due("sign(0, 6)", ')')
+            .due("sign(0, 7)", 'e').due("sign(0, 8)", ')')
             .due("sign(0, 9)", NONE).due("sign(0, -2)", NONE).put(0, CHAIN16).due("sign(0, -1)", 46).dueText(0, CHAIN16);
         says("UNKNOWN: also it is empty.");
-        Hands.with("a").due("sign(1, 0)", UNKNOWN).due("sign(1, -1)", UNKNOWN).due("sign(6, 0)", UNKNOWN).due("sign(-1, -1)", UNKNOWN);
+        Hands.with("a").due("sign(1, 0)", UNKNOWN).due("sign(1, -1)", UNKNOWN).due("sign(6, 0)", UNKNOWN)
+            .due("sign(-1, -1)", UNKNOWN);
 
         says("`int take(int t, int i, int u)`: TREE u becomes NODE i's TREE of t: NODES.");
-        Hands.with("f(g(aB)h)").due("take(0, 1, 5)", 3).dueText(5, "g(aB)").dueText(0, "f(g(aB)h)").due("take(0, 4, 5)", 1).dueText(5, "h").due("take(0, 1, 0)", 3).dueText(0, "g(aB)");
+        Hands.with("f(g(aB)h)").due("take(0, 1, 5)", 3).dueText(5, "g(aB)").dueText(0, "f(g(aB)h)").due("take(0, 4, 5)", 1)
+            .dueText(5, "h").due("take(0, 1, 0)", 3).dueText(0, "g(aB)");
         says("UNKNOWN.");
-        Hands.with("f(a)").due("take(0, 2, 1)", UNKNOWN).due("take(0, -1, 1)", UNKNOWN).due("take(1, 0, 0)", UNKNOWN).due("take(6, 0, 0)", UNKNOWN).due("take(0, 0, 6)", UNKNOWN).due("take(0, 0, -1)", UNKNOWN);
+        Hands.with("f(a)").due("take(0, 2, 1)", UNKNOWN).due("take(0, -1, 1)", UNKNOWN).due("take(1, 0, 0)", UNKNOWN)
+            .due("take(6, 0, 0)", UNKNOWN).due("take(0, 0, 6)", UNKNOWN).due("take(0, 0, -1)", UNKNOWN);
 
         says("`int alike(int s, int i, int t, int k)`: Whether two NODES are ALIKE: 1, 0.");
-        Hands.with("f(g(a)b)", "g(a)").due("alike(0, 1, 1, 0)", 1).due("alike(1, 0, 0, 1)", 1).due("alike(0, 0, 1, 0)", 0).due("alike(0, 3, 1, 1)", 0).due("alike(0, 0, 0, 0)", 1);
+        Hands.with("f(g(a)b)", "g(a)").due("alike(0, 1, 1, 0)", 1).due("alike(1, 0, 0, 1)", 1).due("alike(0, 0, 1, 0)", 0)
+            .due("alike(0, 3, 1, 1)", 0).due("alike(0, 0, 0, 0)", 1);
         says("UNKNOWN.");
-        Hands.with("f(a)").due("alike(0, 2, 0, 0)", UNKNOWN).due("alike(0, 0, 0, 2)", UNKNOWN).due("alike(1, 0, 0, 0)", UNKNOWN).due("alike(0, 0, 1, 0)", UNKNOWN).due("alike(6, 0, 0, 0)", UNKNOWN).due("alike(0, 0, -1, 0)", UNKNOWN);
+        Hands.with("f(a)").due("alike(0, 2, 0, 0)", UNKNOWN).due("alike(0, 0, 0, 2)", UNKNOWN).due("alike(1, 0, 0, 0)", UNKNOWN)
+            .due("alike(0, 0, 1, 0)", UNKNOWN).due("alike(6, 0, 0, 0)", UNKNOWN).due("alike(0, 0, -1, 0)", UNKNOWN);
     }
 
     private static void promisesOfEdits() {
         says("`int price(int which, int v)`: A PRICE: which it was.");
-        Hands.with("a(b)", "a").due("price(0, 5)", 3).due("price(0, 7)", 5).due("least(0, 1)", 7).due("price(1, 4)", 3).due("price(2, 1)", 2).due("price(0, 7)", 7);
+        Hands.with("a(b)", "a").due("price(0, 5)", 3).due("price(0, 7)", 5).due("least(0, 1)", 7).due("price(1, 4)", 3)
+            .due("price(2, 1)", 2).due("price(0, 7)", 7);
         says("OUTSIDE.");
-        new Hands().due("price(3, 0)", OUTSIDE).due("price(-1, 0)", OUTSIDE).due("price(0, 10)", OUTSIDE).due("price(0, -1)", OUTSIDE).due("price(0, 0)", 3);
+        new Hands().due("price(3, 0)", OUTSIDE).due("price(-1, 0)", OUTSIDE).due("price(0, 10)", OUTSIDE)
+            .due("price(0, -1)", OUTSIDE).due("price(0, 0)", 3);
 
         says("`int least(int s, int t)`: PRICE of THE LEAST.");
-        Hands.with("f(g(ab)c)", "f(abc)").due("least(0, 1)", 3).due("least(1, 0)", 3).due("least(0, 0)", 0).put(1, "f(g(ab)x)").due("least(0, 1)", 2).put(1, "z").due("least(0, 1)", 4 * 3 + 2);
+        Hands.with("f(g(ab)c)", "f(abc)").due("least(0, 1)", 3).due("least(1, 0)", 3).due("least(0, 0)", 0).put(1, "f(g(ab)x)")
+            .due("least(0, 1)", 2).put(1, "z").due("least(0, 1)", 4 * 3 + 2);
         says("UNKNOWN: also one is empty.");
-        Hands.with("a").due("least(0, 1)", UNKNOWN).due("least(1, 0)", UNKNOWN).due("least(1, 1)", UNKNOWN).due("least(6, 0)", UNKNOWN).due("least(0, -1)", UNKNOWN);
+        Hands.with("a").due("least(0, 1)", UNKNOWN).due("least(1, 0)", UNKNOWN).due("least(1, 1)", UNKNOWN)
+            .due("least(6, 0)", UNKNOWN).due("least(0, -1)", UNKNOWN);
 
         says("`int led(int s, int t, int i)`: Partner of NODE i of s by THE LEAST; 99.");
         dueRow(Hands.with("f(g(ab)c)", "f(abc)"), 0, 99, 1, 2, 3);
         dueRow(Hands.with("f(abc)", "f(g(ab)c)"), 0, 2, 3, 4);
         says("UNKNOWN.");
-        Hands.with("f(a)", "f(abc)").due("led(0, 1, 2)", UNKNOWN).due("led(0, 1, -1)", UNKNOWN).due("led(0, 2, 0)", UNKNOWN).due("led(2, 0, 0)", UNKNOWN).due("led(6, 0, 0)", UNKNOWN).due("led(0, 6, 0)", UNKNOWN);
+        Hands.with("f(a)", "f(abc)").due("led(0, 1, 2)", UNKNOWN).due("led(0, 1, -1)", UNKNOWN).due("led(0, 2, 0)", UNKNOWN)
+            .due("led(2, 0, 0)", UNKNOWN).due("led(6, 0, 0)", UNKNOWN).due("led(0, 6, 0)", UNKNOWN);
 
         says("`int edits(int s, int t, int what)`: By THE LEAST: 0 led ones, 1 those of them with another LABEL, 2 dropped, 3 added, 4 MOVED pairs, 5 NODES of s in MOVED pairs.");
         dueEdits(Hands.with("f(g(ab)c)", "f(axc)"), 4, 1, 1, 0, 0, 0);
@@ -627,57 +667,74 @@ public final class DocTest {
         dueEdits(Hands.with("f(xp(q)g(abcd))", "f(g(abcd)xp(q)r)").due("price(2, 9)", 2), 6, 0, 3, 4, 2, 3);
         // each pair of TREES anew
         Hands turns = Hands.with("f(g(y)m(abcdehi))", "f(m(abcdehi)g(y))", "a", "b");
-        turns.due("edits(0, 1, 0)", 9).due("edits(0, 1, 4)", 1).due("edits(0, 1, 5)", 2).due("edits(2, 3, 0)", 1).due("edits(2, 3, 1)", 1).due("edits(2, 3, 5)", 0);
+        turns.due("edits(0, 1, 0)", 9).due("edits(0, 1, 4)", 1).due("edits(0, 1, 5)", 2).due("edits(2, 3, 0)", 1)
+            .due("edits(2, 3, 1)", 1).due("edits(2, 3, 5)", 0);
         turns.due("edits(2, 2, 1)", 0).due("edits(1, 0, 0)", 9).due("edits(1, 0, 4)", 1).due("edits(1, 0, 5)", 2);
         says("UNKNOWN; OUTSIDE.");
-        Hands.with("a", "b").due("edits(0, 2, 0)", UNKNOWN).due("edits(2, 0, 0)", UNKNOWN).due("edits(6, 0, 0)", UNKNOWN).due("edits(0, -1, 0)", UNKNOWN).due("edits(0, 1, 6)", OUTSIDE).due("edits(0, 1, -1)", OUTSIDE);
+        Hands.with("a", "b").due("edits(0, 2, 0)", UNKNOWN).due("edits(2, 0, 0)", UNKNOWN).due("edits(6, 0, 0)", UNKNOWN)
+            .due("edits(0, -1, 0)", UNKNOWN).due("edits(0, 1, 6)", OUTSIDE).due("edits(0, 1, -1)", OUTSIDE);
 
         says("`int moved(int s, int t, int i)`: MOVED pair i: 100 times NODE of s, and NODE of t; NONE.");
-        Hands moved = Hands.with("f(m(abcdeghijklno)x)", "f(xm(abcdeghijklno))").due("moved(0, 1, 0)", 1501).due("moved(0, 1, 1)", NONE).due("moved(0, 1, -1)", NONE);
+        Hands moved = Hands.with("f(m(abcdeghijklno)x)", "f(xm(abcdeghijklno))").due("moved(0, 1, 0)", 1501)
+            .due("moved(0, 1, 1)", NONE).due("moved(0, 1, -1)", NONE);
         moved.due("moved(1, 0, 0)", 115).due("moved(0, 0, 0)", NONE);
         says("UNKNOWN.");
-        moved.due("moved(0, 2, 0)", UNKNOWN).due("moved(2, 0, 0)", UNKNOWN).due("moved(6, 0, 0)", UNKNOWN).due("moved(0, -1, 0)", UNKNOWN);
+        moved.due("moved(0, 2, 0)", UNKNOWN).due("moved(2, 0, 0)", UNKNOWN).due("moved(6, 0, 0)", UNKNOWN)
+            .due("moved(0, -1, 0)", UNKNOWN);
     }
 
     private static void promisesOfCommon() {
         says("`int common(int s, int i, int t, int k, int u)`: TREE u becomes COMMON: how many HOLES it tells apart.");
-        Hands h = Hands.with("f(aba)", "f(xyx)").due("common(0, 0, 1, 0, 5)", 2).dueText(5, "f(ABA)").due("told(25)", 2).due("common(0, 0, 0, 0, 5)", 0).dueText(5, "f(aba)");
+        Hands h = Hands.with("f(aba)", "f(xyx)").due("common(0, 0, 1, 0, 5)", 2).dueText(5, "f(ABA)").due("told(25)", 2)
+            .due("common(0, 0, 0, 0, 5)", 0).dueText(5, "f(aba)");
         h.due("common(0, 0, 1, 0, 0)", 2).dueText(0, "f(ABA)").dueText(1, "f(xyx)");
         says("UNKNOWN; STATE: one of both is not PLAIN; NO: more than 8.");
-        Hands no = Hands.with("f(a)", "f(A)").due("common(0, 2, 0, 0, 2)", UNKNOWN).due("common(0, 0, 0, 2, 2)", UNKNOWN).due("common(2, 0, 0, 0, 3)", UNKNOWN).due("common(0, 0, 2, 0, 3)", UNKNOWN);
-        no.due("common(0, 0, 0, 0, 6)", UNKNOWN).due("common(0, 0, 0, 0, -1)", UNKNOWN).due("common(0, 0, 1, 0, 2)", STATE).due("common(1, 0, 0, 0, 2)", STATE).due("told(12)", 0);
-        Hands.with("x(abcdefgh)", "x(bcdefghi)", "c").due("common(0, 0, 1, 0, 3)", 8).put(0, "x(abcdefghi)").put(1, "x(bcdefghij)").due("common(0, 0, 1, 0, 2)", NO).dueText(2, "c");
+        Hands no = Hands.with("f(a)", "f(A)").due("common(0, 2, 0, 0, 2)", UNKNOWN).due("common(0, 0, 0, 2, 2)", UNKNOWN)
+            .due("common(2, 0, 0, 0, 3)", UNKNOWN).due("common(0, 0, 2, 0, 3)", UNKNOWN);
+        no.due("common(0, 0, 0, 0, 6)", UNKNOWN).due("common(0, 0, 0, 0, -1)", UNKNOWN).due("common(0, 0, 1, 0, 2)", STATE)
+            .due("common(1, 0, 0, 0, 2)", STATE).due("told(12)", 0);
+        Hands.with("x(abcdefgh)", "x(bcdefghi)", "c").due("common(0, 0, 1, 0, 3)", 8).put(0, "x(abcdefghi)")
+            .put(1, "x(bcdefghij)").due("common(0, 0, 1, 0, 2)", NO).dueText(2, "c");
 
         says("`int twice(int t, int what)`: SAID TWICE: SIZE (what = 0), the first NODE (1), the second (2); NONE.");
         dueTwice("f(g(ab)cg(ab))", 3, 1, 5);
         dueTwice("f(ab)", NONE, NONE, NONE);
         dueTwice("f(AA)", 1, 1, 2);
         says("UNKNOWN: also it is empty; OUTSIDE.");
-        Hands.with("a").due("twice(1, 0)", UNKNOWN).due("twice(6, 0)", UNKNOWN).due("twice(-1, 0)", UNKNOWN).due("twice(0, 3)", OUTSIDE).due("twice(0, -1)", OUTSIDE);
+        Hands.with("a").due("twice(1, 0)", UNKNOWN).due("twice(6, 0)", UNKNOWN).due("twice(-1, 0)", UNKNOWN)
+            .due("twice(0, 3)", OUTSIDE).due("twice(0, -1)", OUTSIDE);
     }
 
     private static void promisesOfRules() {
         says("`int rule(int left, int right)`: A RULE: its number.");
-        Hands.with("f(A)", "A").due("rule(0, 1)", 0).due("rule(0, 0)", 1).put(2, "f(f(b))").due("make(2, 1, 0)", 2).dueText(2, "f(b)").due("clear()", 2).due("rule(0, 1)", 0);
+        Hands.with("f(A)", "A").due("rule(0, 1)", 0).due("rule(0, 0)", 1).put(2, "f(f(b))").due("make(2, 1, 0)", 2)
+            .dueText(2, "f(b)").due("clear()", 2).due("rule(0, 1)", 0);
         says("UNKNOWN: also one TREE is empty; FULL; NO: left is a HOLE, right has another one.");
-        Hands.with("f(A)", "A", "B").due("rule(0, 3)", UNKNOWN).due("rule(3, 0)", UNKNOWN).due("rule(6, 0)", UNKNOWN).due("rule(0, -1)", UNKNOWN).due("rule(1, 1)", NO).due("rule(0, 2)", NO).due("told(1)", 0);
+        Hands.with("f(A)", "A", "B").due("rule(0, 3)", UNKNOWN).due("rule(3, 0)", UNKNOWN).due("rule(6, 0)", UNKNOWN)
+            .due("rule(0, -1)", UNKNOWN).due("rule(1, 1)", NO).due("rule(0, 2)", NO).due("told(1)", 0);
         Hands.ruled("a=b", "a=b", "a=b", "a=b", "a=b", "a=b").due("rule(4, 5)", FULL).due("told(1)", 6);
 
         says("`int clear()`: RULES go: how many there were.");
         new Hands().due("clear()", 0);
-        Hands.ruled("a=b", "a=c").put(0, "a").due("overlaps(0)", 2).due("clear()", 2).due("clear()", 0).due("told(1)", 0).due("fits(0, 0)", 0).due("overlaps(0)", 0);
+        Hands.ruled("a=b", "a=c").put(0, "a").due("overlaps(0)", 2).due("clear()", 2).due("clear()", 0).due("told(1)", 0)
+            .due("fits(0, 0)", 0).due("overlaps(0)", 0);
 
         says("`int fits(int t, int i)`: RULES that FIT a NODE, as bits.");
-        Hands.ruled("a=b", "f(A)=A", "f(a)=b", "f(b)=c", "a=c", "f(A)=a").put(0, "f(a)").due("fits(0, 0)", 2 + 4 + 32).due("fits(0, 1)", 1 + 16).put(0, "z").due("fits(0, 0)", 0);
+        Hands.ruled("a=b", "f(A)=A", "f(a)=b", "f(b)=c", "a=c", "f(A)=a").put(0, "f(a)").due("fits(0, 0)", 2 + 4 + 32)
+            .due("fits(0, 1)", 1 + 16).put(0, "z").due("fits(0, 0)", 0);
         says("UNKNOWN; STATE: it is not PLAIN.");
-        Hands.ruled("a=b").put(0, "f(a)").put(1, "f(aA)").due("fits(0, 2)", UNKNOWN).due("fits(0, -1)", UNKNOWN).due("fits(2, 0)", UNKNOWN).due("fits(6, 0)", UNKNOWN).due("fits(1, 0)", STATE).due("fits(1, 1)", STATE);
+        Hands.ruled("a=b").put(0, "f(a)").put(1, "f(aA)").due("fits(0, 2)", UNKNOWN).due("fits(0, -1)", UNKNOWN)
+            .due("fits(2, 0)", UNKNOWN).due("fits(6, 0)", UNKNOWN).due("fits(1, 0)", STATE).due("fits(1, 1)", STATE);
 
         says("`int make(int t, int i, int rule)`: A RULE is done at a NODE: NODES of the TREE then.");
-        Hands.ruled("a=b", "f(A)=g(AAc)").put(0, "e(f(a)d)").due("make(0, 1, 1)", 6).dueText(0, "e(g(aac)d)").due("make(0, 3, 0)", 6).dueText(0, "e(g(abc)d)");
+        Hands.ruled("a=b", "f(A)=g(AAc)").put(0, "e(f(a)d)").due("make(0, 1, 1)", 6).dueText(0, "e(g(aac)d)")
+            .due("make(0, 3, 0)", 6).dueText(0, "e(g(abc)d)");
         says("UNKNOWN; STATE; FULL: more than 16; NO: it does not FIT.");
         Hands make = Hands.ruled("b=c(d)", "a=b").put(0, FLAT16).put(1, "f(Ab)").put(2, "f(b)");
-        make.due("make(0, 1, 0)", FULL).dueText(0, FLAT16).due("make(1, 2, 0)", STATE).due("make(2, 0, 0)", NO).due("make(2, 1, 1)", NO).due("make(2, 2, 0)", UNKNOWN);
-        make.due("make(2, -1, 0)", UNKNOWN).due("make(2, 1, 2)", UNKNOWN).due("make(2, 1, -1)", UNKNOWN).due("make(3, 0, 0)", UNKNOWN).due("make(6, 0, 0)", UNKNOWN).dueText(2, "f(b)");
+        make.due("make(0, 1, 0)", FULL).dueText(0, FLAT16).due("make(1, 2, 0)", STATE).due("make(2, 0, 0)", NO)
+            .due("make(2, 1, 1)", NO).due("make(2, 2, 0)", UNKNOWN);
+        make.due("make(2, -1, 0)", UNKNOWN).due("make(2, 1, 2)", UNKNOWN).due("make(2, 1, -1)", UNKNOWN)
+            .due("make(3, 0, 0)", UNKNOWN).due("make(6, 0, 0)", UNKNOWN).dueText(2, "f(b)");
         make.put(0, "a(bbbbbbbbbbbbbb)").due("make(0, 1, 0)", 16);
 
         says("`int walk(int t, boolean within)`: A WALK, TREE t becoming its end (2, 3: as it is by then): how it ended.");
@@ -689,11 +746,14 @@ public final class DocTest {
         dueWalk(counter(), "t(r(o(o(o(o(o(o(z))))))))", true, 3, 100, "t(r(i(i(o(i(i(o(z))))))))");
         Hands.ruled("a=b").put(0, "a").put(1, "a").due("walk(1, true)", 0).dueText(1, "b").dueText(0, "a");
         says("UNKNOWN: also it is empty; STATE.");
-        Hands.with("f(A)").due("walk(1, true)", UNKNOWN).due("walk(6, false)", UNKNOWN).due("walk(-1, true)", UNKNOWN).due("walk(0, true)", STATE).due("walk(0, false)", STATE);
+        Hands.with("f(A)").due("walk(1, true)", UNKNOWN).due("walk(6, false)", UNKNOWN).due("walk(-1, true)", UNKNOWN)
+            .due("walk(0, true)", STATE).due("walk(0, false)", STATE);
 
         says("`int steps()`: Steps of the latest WALK by walk(); NONE: there was none.");
-        Hands steps = Hands.ruled("a=b", "a=c", "b=d").put(0, "f(aa)").put(1, "A").due("steps()", NONE).due("overlap(0, 1, 0)", 1).due("overlaps(0)", 2).due("walk(1, true)", STATE).due("steps()", NONE);
-        steps.due("walk(0, true)", 0).due("steps()", 4).due("overlap(0, 1, 0)", 1).due("make(0, 0, 0)", NO).due("walk(2, true)", UNKNOWN).due("steps()", 4).due("walk(0, true)", 0).due("steps()", 0);
+        Hands steps = Hands.ruled("a=b", "a=c", "b=d").put(0, "f(aa)").put(1, "A").due("steps()", NONE)
+            .due("overlap(0, 1, 0)", 1).due("overlaps(0)", 2).due("walk(1, true)", STATE).due("steps()", NONE);
+        steps.due("walk(0, true)", 0).due("steps()", 4).due("overlap(0, 1, 0)", 1).due("make(0, 0, 0)", NO)
+            .due("walk(2, true)", UNKNOWN).due("steps()", 4).due("walk(0, true)", 0).due("steps()", 0);
     }
 
     private static void promisesOfOverlaps() {
@@ -701,21 +761,31 @@ public final class DocTest {
         Hands.ruled("f(f(A))=A", "f(a)=b").due("overlap(0, 1, 0)", 0).due("overlap(0, 1, 1)", 1).due("overlap(0, 0, 1)", 2);
         Hands.ruled("a=b", "a=c", "c=c").due("overlap(0, 1, 0)", 1).due("overlap(1, 0, 0)", 1);
         // the PEAK f(x h(x)) has 2 and twice the NODES of x; behind it what a or b makes of f(xy)
-        Hands.ruled("f(Ah(A))=b", "f(g(aaaaaa)B)=b", "f(g(aaaaaaa)B)=b").due("overlap(0, 1, 0)", 2).due("overlap(0, 2, 0)", 3).due("overlap(2, 0, 0)", 3);
-        Hands.ruled("f(AB)=c(AAB)", "f(h(aaaaa)h(bb))=c", "f(h(aaaaa)h(bbb))=c").due("overlap(0, 1, 0)", 1).due("overlap(1, 0, 0)", 1).due("overlap(0, 2, 0)", 3).due("overlap(2, 0, 0)", 3);
+        Hands.ruled("f(Ah(A))=b", "f(g(aaaaaa)B)=b", "f(g(aaaaaaa)B)=b").due("overlap(0, 1, 0)", 2).due("overlap(0, 2, 0)", 3)
+            .due("overlap(2, 0, 0)", 3);
+        Hands.ruled("f(AB)=c(AAB)", "f(h(aaaaa)h(bb))=c", "f(h(aaaaa)h(bbb))=c").due("overlap(0, 1, 0)", 1)
+            .due("overlap(1, 0, 0)", 1).due("overlap(0, 2, 0)", 3).due("overlap(2, 0, 0)", 3);
         says("UNKNOWN: RULES, NODE of a's left; NO: a HOLE, NODE 0 of a RULE with itself.");
-        Hands o = Hands.ruled("f(g(A)A)=A", "g(a)=b").due("overlap(2, 0, 0)", UNKNOWN).due("overlap(-1, 0, 0)", UNKNOWN).due("overlap(0, 2, 0)", UNKNOWN).due("overlap(0, -1, 0)", UNKNOWN);
-        o.due("overlap(0, 1, 4)", UNKNOWN).due("overlap(0, 1, -1)", UNKNOWN).due("overlap(1, 0, 2)", UNKNOWN).due("overlap(0, 1, 2)", NO).due("overlap(0, 1, 3)", NO).due("overlap(1, 1, 0)", NO).due("overlap(1, 1, 1)", 0);
+        Hands o = Hands.ruled("f(g(A)A)=A", "g(a)=b").due("overlap(2, 0, 0)", UNKNOWN).due("overlap(-1, 0, 0)", UNKNOWN)
+            .due("overlap(0, 2, 0)", UNKNOWN).due("overlap(0, -1, 0)", UNKNOWN);
+        o.due("overlap(0, 1, 4)", UNKNOWN).due("overlap(0, 1, -1)", UNKNOWN).due("overlap(1, 0, 2)", UNKNOWN)
+            .due("overlap(0, 1, 2)", NO).due("overlap(0, 1, 3)", NO).due("overlap(1, 1, 0)", NO).due("overlap(1, 1, 1)", 0);
 
         says("`int peak(int a, int b, int i, int u)`: TREE u becomes the PEAK (its HOLES A, B, and so on as written): NODES.");
         duePeak("f(HG)=G", "f(g(C)D)=D", 0, "f(g(A)B)");
-        Hands.ruled("p(p(GF)E)=F", "p(s(A)B)=B").due("peak(0, 1, 1, 3)", 6).dueText(3, "p(p(s(A)B)C)").due("peak(0, 0, 1, 5)", 7).dueText(5, "p(p(p(AB)C)D)").due("told(25)", 4);
+        Hands.ruled("p(p(GF)E)=F", "p(s(A)B)=B").due("peak(0, 1, 1, 3)", 6).dueText(3, "p(p(s(A)B)C)")
+            .due("peak(0, 0, 1, 5)", 7).dueText(5, "p(p(p(AB)C)D)").due("told(25)", 4);
         says("UNKNOWN; FULL: more than 16 NODES, or 8 HOLES; NO, likewise; STATE: there is no OVERLAP.");
-        Hands p = Hands.ruled("f(g(A)A)=A", "g(a)=b").put(0, "c").due("peak(2, 0, 0, 0)", UNKNOWN).due("peak(0, 2, 0, 0)", UNKNOWN).due("peak(0, 1, 4, 0)", UNKNOWN).due("peak(0, 1, 1, 6)", UNKNOWN).due("peak(0, 1, 1, -1)", UNKNOWN);
-        p.due("peak(0, 1, 2, 0)", NO).due("peak(0, 0, 0, 0)", NO).due("peak(0, 1, 0, 0)", STATE).dueText(0, "c").due("peak(0, 1, 1, 0)", 4).dueText(0, "f(g(a)a)");
-        Hands great = Hands.ruled("f(Ah(A))=b", "f(g(aaaaaa)B)=b", "f(g(aaaaaaa)B)=b").put(0, "c").due("peak(0, 2, 0, 0)", FULL).dueText(0, "c").due("peak(0, 1, 0, 0)", 16);
+        Hands p = Hands.ruled("f(g(A)A)=A", "g(a)=b").put(0, "c").due("peak(2, 0, 0, 0)", UNKNOWN)
+            .due("peak(0, 2, 0, 0)", UNKNOWN).due("peak(0, 1, 4, 0)", UNKNOWN).due("peak(0, 1, 1, 6)", UNKNOWN)
+            .due("peak(0, 1, 1, -1)", UNKNOWN);
+        p.due("peak(0, 1, 2, 0)", NO).due("peak(0, 0, 0, 0)", NO).due("peak(0, 1, 0, 0)", STATE).dueText(0, "c")
+            .due("peak(0, 1, 1, 0)", 4).dueText(0, "f(g(a)a)");
+        Hands great = Hands.ruled("f(Ah(A))=b", "f(g(aaaaaa)B)=b", "f(g(aaaaaaa)B)=b").put(0, "c").due("peak(0, 2, 0, 0)", FULL)
+            .dueText(0, "c").due("peak(0, 1, 0, 0)", 16);
         great.dueText(0, "f(g(aaaaaa)h(g(aaaaaa)))");
-        Hands.ruled("f(Ag(B))=a", "g(h(ABCDEFGH))=b", "g(h(ABCDEFG))=b").put(0, "c").due("peak(0, 1, 2, 0)", FULL).dueText(0, "c").due("peak(0, 2, 2, 0)", 11).dueText(0, "f(Ag(h(BCDEFGH)))");
+        Hands.ruled("f(Ag(B))=a", "g(h(ABCDEFGH))=b", "g(h(ABCDEFG))=b").put(0, "c").due("peak(0, 1, 2, 0)", FULL)
+            .dueText(0, "c").due("peak(0, 2, 2, 0)", 11).dueText(0, "f(Ag(h(BCDEFGH)))");
 
         says("`int overlaps(int what)`: Of all OVERLAPS (RULES, then NODES): 0 how many, 1 that MEET, 2 that do not, 3 too great.");
         dueOverlaps(new Hands(), 0, 0, 0, 0);
@@ -728,7 +798,8 @@ public final class DocTest {
         new Hands().due("overlaps(4)", OUTSIDE).due("overlaps(-1)", OUTSIDE).due("overlaps(MAX)", OUTSIDE);
 
         says("`int told(int what)`: 0 signs on the PAD, 1 RULES, 10 to 15 NODES of TREES, 20 to 25 HOLES that they tell apart.");
-        Hands told = Hands.with("f(ABA)", "a", "H", "x(ABCDEFGHHGFEDCB)", "f(ab)").due("rule(0, 1)", 0).due("rule(0, 4)", 1).say("abc").due("told(0)", 3).due("told(1)", 2);
+        Hands told = Hands.with("f(ABA)", "a", "H", "x(ABCDEFGHHGFEDCB)", "f(ab)").due("rule(0, 1)", 0).due("rule(0, 4)", 1)
+            .say("abc").due("told(0)", 3).due("told(1)", 2);
         int[] many = {4, 1, 1, 16, 3, 0, 2, 0, 1, 8, 0, 0};
         for (int t = 0; t < 6; t++) told.due("told(1" + t + ")", many[t]).due("told(2" + t + ")", many[6 + t]);
         says("OUTSIDE.");

@@ -33,6 +33,11 @@ public final class FaceTest {
         "while \\(true\\)", "for \\(;;"
     };
 
+    /** What it uses of the library; LANGUAGE.md has more. */
+    private static final Set<String> LIBRARY = Set.of("Math.min", "Math.max", "Integer.bitCount", "System.arraycopy");
+
+    private static final String THROWN = "\\w*Exception|\\w*Error|Throwable";
+
     private static void check(boolean right, String what) {
         if (!right) {
             wrong++;
@@ -103,6 +108,9 @@ public final class FaceTest {
             Matcher m = Pattern.compile(bad).matcher(code);
             check(!m.find(), "the text has " + bad);
         }
+        Matcher library = Pattern.compile("\\b(Math|Integer|Long|Arrays|System|String|List)\\.(\\w+)").matcher(code);
+        while (library.find()) check(LIBRARY.contains(library.group()), "the text has " + library.group());
+        check(!Pattern.compile("\\b(new (String|ArrayList|Integer|Thread)|double|float|" + THROWN + ")\\b").matcher(code).find(), "a class that it need not have");
         String[] lines = code.split("\n");
         int start = -1;
         for (int k = 0; k < lines.length; k++) {

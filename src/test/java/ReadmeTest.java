@@ -9,6 +9,7 @@ import java.util.TreeSet;
 import java.util.regex.Matcher;
 import java.util.regex.Pattern;
 import java.util.stream.Stream;
+import javax.tools.JavaCompiler;
 import javax.tools.ToolProvider;
 
 /**
@@ -72,7 +73,10 @@ public final class ReadmeTest {
         Path file = OUT.resolve("Shown.java");
         Files.writeString(file, "public final class Shown {\n" + members + "public static void main(String[] args) {\n" + main + "}\n}\n");
         String path = System.getProperty("java.class.path");
-        int failed = ToolProvider.getSystemJavaCompiler().run(null, System.out, System.out, "-cp", path, "-d", OUT.toString(), file.toString());
+        JavaCompiler javac = ToolProvider.getSystemJavaCompiler();
+        check(javac != null, "this java has no javac with it");
+        if (javac == null) return;
+        int failed = javac.run(null, System.out, System.out, "-cp", path, "-d", OUT.toString(), file.toString());
         check(failed == 0, "what it shows does not compile");
         if (failed != 0) return;
         try (var loader = new java.net.URLClassLoader(new java.net.URL[] {OUT.toUri().toURL()}, ReadmeTest.class.getClassLoader())) {
